@@ -992,7 +992,10 @@ public final class QuiverDesk {
         final int[] steps = new int[MOST_ROOTS];
         final int[] foot = new int[MOST_ROOTS];
         final int[] injectiveOf = new int[MOST_ROOTS];
+        /** As they come, not yet by their numbers. */
         private final int[][] found = new int[MOST_ROOTS][MOST_POINTS];
+        private final int[] foundCodes = new int[MOST_ROOTS];
+        private final int[] foundTotals = new int[MOST_ROOTS];
         private final int[] projectiveOf = new int[MOST_ROOTS];
         private final int[] trial = new int[MOST_POINTS];
 
@@ -1001,7 +1004,7 @@ public final class QuiverDesk {
             if (!finite) {
                 return;
             }
-            giveNumbers(quiver.points);
+            giveNumbers();
             for (int r = 0; r < size; r++) {
                 findNeighbours(quiver, ways, r);
             }
@@ -1016,15 +1019,14 @@ public final class QuiverDesk {
 
         private boolean search(Quiver quiver) {
             beginWithPoints(quiver.points);
-            for (int r = 0; r < size; r++) {
+            for (int r = 0; r < size && r < MOST_ROOTS; r++) {
                 for (int p = 0; p < quiver.points; p++) {
                     int there = quiver.turnedAbout(found[r], p);
-                    if (there >= 0 && isNew(r, p, there, quiver.points)) {
-                        if (there > HIGHEST_IN_ROOT || size >= MOST_ROOTS) {
-                            return false;
-                        }
-                        copyRow(trial, found[size]);
-                        size++;
+                    if (there > HIGHEST_IN_ROOT) {
+                        return false;
+                    }
+                    if (there >= 0 && !takeIn(r, p, there)) {
+                        return false;
                     }
                 }
             }
@@ -1037,46 +1039,62 @@ public final class QuiverDesk {
                 for (int p = 0; p < MOST_POINTS; p++) {
                     found[r][p] = p == r ? 1 : 0;
                 }
+                foundCodes[r] = codeOf(r, 1);
+                foundTotals[r] = 1;
             }
         }
 
-        /** Leaves the row that it looks for in trial. */
-        private boolean isNew(int root, int point, int there, int points) {
-            copyRow(found[root], trial);
-            trial[point] = there;
-            for (int r = 0; r < size; r++) {
-                if (isSameRow(found[r], trial, points)) {
-                    return false;
-                }
+        /** Takes in the root that comes of r, unless it is known; false if there is no room for it. */
+        private boolean takeIn(int r, int point, int there) {
+            int more = there - found[r][point];
+            int code = foundCodes[r] + codeOf(point, more);
+            if (isFound(code)) {
+                return true;
             }
+            if (size >= MOST_ROOTS) {
+                return false;
+            }
+            copyRow(found[r], found[size]);
+            found[size][point] = there;
+            foundCodes[size] = code;
+            foundTotals[size] = foundTotals[r] + more;
+            size++;
             return true;
         }
 
+        /** Four bits a point hold 0 to 9, the first point highest: so codes are ordered as their rows are. */
+        private static int codeOf(int point, int v) {
+            return v * (1 << (4 * (MOST_POINTS - 1 - point)));
+        }
+
+        private boolean isFound(int code) {
+            for (int r = 0; r < size; r++) {
+                if (foundCodes[r] == code) {
+                    return true;
+                }
+            }
+            return false;
+        }
+
         /** No two are the same, so how many stand ahead of a root is its number. */
-        private void giveNumbers(int points) {
+        private void giveNumbers() {
             for (int r = 0; r < size; r++) {
                 int ahead = 0;
                 for (int s = 0; s < size; s++) {
-                    if (isAhead(found[s], found[r], points)) {
+                    if (isAhead(s, r)) {
                         ahead++;
                     }
                 }
                 copyRow(found[r], rows[ahead]);
-                total[ahead] = totalOf(found[r], points);
+                total[ahead] = foundTotals[r];
             }
         }
 
-        private static boolean isAhead(int[] y, int[] z, int points) {
-            int difference = totalOf(y, points) - totalOf(z, points);
-            if (difference != 0) {
-                return difference < 0;
+        private boolean isAhead(int s, int r) {
+            if (foundTotals[s] != foundTotals[r]) {
+                return foundTotals[s] < foundTotals[r];
             }
-            for (int p = 0; p < points; p++) {
-                if (y[p] != z[p]) {
-                    return y[p] > z[p];
-                }
-            }
-            return false;
+            return foundCodes[s] > foundCodes[r];
         }
 
         private void findNeighbours(Quiver quiver, Ways ways, int r) {
@@ -1157,16 +1175,33 @@ public final class QuiverDesk {
             return Math.min(all, MOST_SUMS);
         }
 
-        /** Those that do not fit at first never will. */
+        /**
+         * Those that do not fit at first never will. The one that fits most often comes first, since
+         * all its turns are counted in one step.
+         */
         private void chooseRoots(Roots roots) {
             usedSize = 0;
             for (int r = 0; r < roots.size; r++) {
                 if (roots.total[r] > 1 && fits(roots.rows[r])) {
-                    used[usedSize] = r;
-                    times[usedSize] = 0;
-                    usedSize++;
+                    putAmongUsed(r, howOftenFits(roots.rows[r]));
                 }
             }
+            for (int wheel = 0; wheel < usedSize; wheel++) {
+                times[wheel] = 0;
+            }
+        }
+
+        /** Till the wheels turn, times holds how often each root fits. */
+        private void putAmongUsed(int root, int often) {
+            int at = usedSize;
+            while (at > 0 && times[at - 1] < often) {
+                times[at] = times[at - 1];
+                used[at] = used[at - 1];
+                at--;
+            }
+            times[at] = often;
+            used[at] = root;
+            usedSize++;
         }
 
         /** Like a counter with wheels: the first wheel that can go on does, those ahead of it start anew. */

@@ -125,6 +125,11 @@ public final class PromiseTest {
         fault("rows 1 2 3", 0);
         fault("ro 1 2 3", 0);
         fault("arro 0 1", 0);
+        fault("aow 1 2 3", 0);
+        fault("rowz 1 2 3", 0);
+        fault("rowa 1 2 3", 0);
+        fault("row1 2 30", -1);
+        fault("row1 2 39", -1);
         fault("arroww 0 1", 0);
         fault("quiverarrow 0 1", 0);
         fault("12", 0);
@@ -221,6 +226,10 @@ public final class PromiseTest {
         for (int p = 0; p < 5; p++) {
             C.due("x is 0", d.point(p, 0), 0);
         }
+        C.due("roots", d.count(4), 6);
+        Check.told(d, "arrow 1 0");
+        d.quiver();
+        C.due("roots of the new arrows", d.count(4), 8);
         C.due("an empty text", d.quiver(), NOT);
         Check.told(d, "row 1 2 3 4 5;row 9 8 7 6 99");
         d.quiver();
@@ -488,6 +497,13 @@ public final class PromiseTest {
             C.due("x", d.point(0, 0), 11 + i);
         }
         C.due("no more", d.undo(), NOT);
+        d.put(0, 1);
+        d.put(0, 2);
+        C.due("roots", d.count(4), 6);
+        C.due("paths", d.paths(0, 2), 1);
+        d.undo();
+        C.due("roots behind undo", d.count(4), 4);
+        C.due("paths behind undo", d.paths(0, 2), 0);
     }
 
     private static void keepAndBack() {
@@ -645,6 +661,12 @@ public final class PromiseTest {
         C.due("below 0", d.sums(), 0);
         C.due("not finite", Check.made(KRONECKER).sums(), NOT);
         C.due("no arrows", Check.made("row 99 99 99").sums(), 1);
+        d = Check.made("quiver 2;arrow 0 1;row 0 5");
+        d.set(0, -1);
+        C.due("below 0 at the first point", d.sums(), 0);
+        C.due("little at the first point", Check.made("quiver 3;arrow 0 1;arrow 1 2;row 1 9 9").sums(), 10 + 9 + 9);
+        C.due("nothing at the first point", Check.made("quiver 3;arrow 0 1;arrow 1 2;row 0 9 9").sums(), 10);
+        C.due("little at the last point", Check.made("quiver 3;arrow 0 1;arrow 1 2;row 9 9 1").sums(), 10 + 9 + 9);
         C.due("two points", Check.made("quiver 2;arrow 0 1;row 99 98").sums(), 99);
         C.due("three in a row", Check.made("quiver 3;arrow 0 1;arrow 1 2;row 2 2 2").sums(), 10);
         C.due("a gap", Check.made("quiver 3;arrow 0 1;arrow 1 2;row 50 0 50").sums(), 1);
@@ -755,6 +777,12 @@ public final class PromiseTest {
         d.quiver();
         C.due("of another size", d.add(1), SIZE);
         C.due("none done", d.count(11), 0);
+        QuiverDesk six = Check.made("quiver 6;row 1 1 1 1 1 99");
+        six.shelf(0);
+        six.lay(0);
+        C.due("beyond at the sixth point", six.add(0), NOT);
+        six.set(5, 0);
+        C.due("99 at the sixth point", six.add(0), 2);
         QuiverDesk e = new QuiverDesk();
         e.set(0, -60);
         e.shelf(0);
@@ -833,6 +861,8 @@ public final class PromiseTest {
         for (int w : WRONG) {
             C.due("what", d.count(w), OUTSIDE);
         }
+        C.due("sources without the first point", Check.made("quiver 2;arrow 1 0").count(7), 2);
+        C.due("sinks without the first point", Check.made("quiver 2;arrow 0 1").count(6), 2);
         d.put(4, 3);
         C.due("hangs together", d.count(9), 1);
         C.due("roots", d.count(4), 15);
