@@ -11,8 +11,6 @@ import java.util.Set;
 import java.util.TreeSet;
 import java.util.regex.Matcher;
 import java.util.regex.Pattern;
-import javax.tools.JavaCompiler;
-import javax.tools.ToolProvider;
 
 /** What README.md tells of the use of the class: its calls are compiled and run as they stand there. */
 public final class ReadmeTest {
@@ -75,9 +73,10 @@ public final class ReadmeTest {
     }
 
     private static void run(String program, Path out) throws Exception {
-        JavaCompiler compiler = ToolProvider.getSystemJavaCompiler();
         Path source = Files.writeString(out.resolve("Shown.java"), program);
-        int failed = compiler.run(null, null, null, "-cp", System.getProperty("java.class.path"), "-d", out.toString(), source.toString());
+        // the same javac that .ci/run calls; a java without a compiler of its own may run this test
+        ProcessBuilder javac = new ProcessBuilder("javac", "-cp", System.getProperty("java.class.path"), "-d", out.toString(), source.toString());
+        int failed = javac.inheritIO().start().waitFor();
         C.due("the blocks compile", failed, 0);
         if (failed == 0) {
             try (URLClassLoader loader = new URLClassLoader(new URL[] {out.toUri().toURL()}, ReadmeTest.class.getClassLoader())) {
